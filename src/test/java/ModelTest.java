@@ -13,7 +13,8 @@ public final class ModelTest {
     private static final String[] ASKS = {
         "setting", "arc", "letter", "scratch", "flourishLetter", "partsAt", "heading", "turnAt", "farthestLeft", "room",
         "crowded", "tightest", "flourishIn", "stockLeft", "worth", "meanRoom", "filled", "danger", "slipsIf",
-        "leastSharp", "leastGrowth", "mostWidth", "spare", "report", "reportByte", "errorCode", "errorPosition"};
+        "leastSharp", "leastGrowth", "mostWidth", "spare", "report", "reportByte", "errorCode", "errorPosition",
+        "setting", "letter", "letter", "scratch", "scratch"};
     private static final String[] CHANGES = {
         "engrave", "engraveAll", "mend", "polish", "sharpen", "setMargin", "setRadius", "setWidth", "engrave", "mend",
         "polish", "engraveAll"};
@@ -48,9 +49,9 @@ public final class ModelTest {
     }
 
     private void run() {
-        while (calls.size() < CALLS - 60 && !differs) {
+        while (calls.size() < CALLS - 40 && !differs) {
             int kind = random.nextInt(100);
-            if (kind < 4 || calls.isEmpty()) {
+            if (kind < 2 || calls.isEmpty()) {
                 putText(random.nextInt(8) == 0 ? spoilt(text()) : text());
                 call("readText");
             } else if (kind < 14) {
@@ -84,6 +85,10 @@ public final class ModelTest {
 
     private void ask() {
         String name = ASKS[random.nextInt(ASKS.length)];
+        if (random.nextInt(6) == 0) {
+            askOfSpoiling();
+            return;
+        }
         int whole = (Integer) answer(oracle, model.get("setting"), 3);
         int parts = (Integer) answer(oracle, model.get("setting"), 4);
         int most = name.equals("partsAt") || name.equals("heading") ? whole + 2
@@ -97,6 +102,18 @@ public final class ModelTest {
             case 1: call(name, first); break;
             default: call(name, first, second); break;
         }
+    }
+
+    /** Asked just behind a change, as what was measured ahead of it must not be told. */
+    private void askOfSpoiling() {
+        int scratches = (Integer) answer(oracle, model.get("setting"), 7);
+        call("setWidth", random.nextInt(26), 1 + random.nextInt(random.nextBoolean() ? 12 : 99));
+        if (random.nextBoolean()) {
+            call("scratch", random.nextInt(scratches + 1), 2);
+        } else {
+            call("letter", random.nextInt(20), 9);
+        }
+        call("setting", 9);
     }
 
     private void call(String name, Integer... given) {
@@ -161,7 +178,8 @@ public final class ModelTest {
         for (int i = 0; i < statements; i++) {
             switch (random.nextInt(15)) {
                 case 0: case 1: case 2: case 3: case 4: case 5:
-                    text.append("arc ").append(number(1, 99)).append(' ').append(number(1, random.nextBoolean() ? 180 : 30));
+                    text.append("arc ").append(number(1, random.nextInt(5) == 0 ? 3 : 99)).append(' ');
+                    text.append(number(1, random.nextBoolean() ? 180 : 30));
                     text.append(random.nextBoolean() ? " right" : "");
                     text.append(random.nextInt(4) != 0 ? "hard" + number(0, 99) : "");
                     break;
@@ -179,7 +197,7 @@ public final class ModelTest {
                     text.append(random.nextBoolean() ? "seed " + number(0, 999) : "margin" + number(0, 99));
                     break;
                 default:
-                    text.append("sharp ").append(number(1, 99));
+                    text.append("sharp ").append(number(1, random.nextBoolean() ? 20 : 99));
                     break;
             }
             text.append(random.nextBoolean() ? ";" : " ;\n");

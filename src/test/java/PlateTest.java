@@ -155,6 +155,11 @@ public final class PlateTest {
         }
         Checks.thrown("below", Checks.ILLEGAL, () -> x.turnAt(-1));
         Checks.thrown("above", Checks.ILLEGAL, () -> x.turnAt(20251));
+        CurvedNames thin = Checks.read("arc 1 9;arc 2 9;arc 1 9;");
+        int[][] thinDue = {{1, 1}, {89, 89}, {90, 90}, {91, 90}, {92, 91}, {270, 180}, {271, 181}, {360, 270}};
+        for (int[] row : thinDue) {
+            Checks.due("thin: turn at " + row[0], row[1], thin.turnAt(row[0]));
+        }
         Checks.due("no arcs", 0, new CurvedNames().turnAt(0));
         Checks.thrown("no arcs", Checks.ILLEGAL, () -> new CurvedNames().turnAt(1));
     }
@@ -213,6 +218,12 @@ public final class PlateTest {
         Checks.due("margin 3", "-1 0 2 -1 / 0 2 0 / 14", fillings(x));
         x.setMargin(0);
         Checks.due("margin 0", "1 0 2 -1 / 0 1 0 / 19", fillings(x));
+        x.setMargin(99);
+        Checks.due("worth asked anew", 0, x.worth());
+        x.setMargin(4);
+        Checks.due("stock asked anew", 0, x.stockLeft(0));
+        x.setMargin(6);
+        Checks.due("room asked anew", -1, x.flourishIn(1));
         Checks.due("the lowest room of like ones", "0 -1 / 0 / 1",
             fillings(Checks.read("arc 50 90;name d;flourish p 1 1 1;")));
         Checks.due("the greatest worth", "1 1 / 5 3 4 / 18",

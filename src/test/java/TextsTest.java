@@ -165,6 +165,13 @@ public final class TextsTest {
         textError("(", 1, 0);
         textError("name a)", 1, 6);
         textError("engrave 1;", 1, 0);
+        String[] near = {"brc 1 1;", "arcs 1 1;", "ar 1 1;", "bame a;", "names a;", "xide a 1;", "wida a 1;", "glourish a 1 1 1;",
+            "flouris a 1 1 1;", "teed 1;", "tharp 1;", "nargin 1;", "margi 1;", "ard 1 1;"};
+        for (String text : near) {
+            textError(text, 1, 0);
+        }
+        textError("arc 1 1 sight;", 1, 8);
+        textError("arc 1 1 bard 1;", 1, 8);
     }
 
     private static void texts() {
@@ -188,6 +195,15 @@ public final class TextsTest {
         Checks.due("seed 999", 999, Checks.read("seed 999;").setting(10));
         Checks.due("leading zeros", 9, Checks.read("arc 009 001;").arc(0, 0));
         Checks.due("margin 0", 0, Checks.read("margin 0;").setting(6));
+        for (int i = 0; i < 2; i++) {
+            Checks.put(x, "seed 5;sharp 6;margin 7;");
+            Checks.due("each may stand once in each text", 0, x.readText());
+        }
+        Checks.put(x, "seed 5;sharp 6;margin 7;arc 0");
+        Checks.thrown("a text with an error", Checks.ILLEGAL, x::readText);
+        Checks.put(x, "seed 8;sharp 9;margin 10;");
+        Checks.due("also behind a text with an error", 0, x.readText());
+        Checks.due("seed", 8, x.setting(10));
         Checks.due("a name of flourishes that begins another", 2,
             Checks.read("flourish ab 1 1 1;flourish abc 1 1 1;").setting(2));
     }
@@ -253,6 +269,9 @@ public final class TextsTest {
         scriptError("repeat 21(all;);", 2, 7);
         scriptError("repeat 1(repeat 1(repeat 1(all;);););", 3, 18);
         scriptError("repeat 1(repeat 1(all;);repeat 1(all;repeat", 3, 37);
+        for (String text : new String[] {"fngrave 1;", "bll;", "al;", "nend 1;", "qolish 1;", "tharpen 1;", "nargin 1;", "sepeat 1();"}) {
+            scriptError(text, 1, 0);
+        }
         scriptError("all;".repeat(30) + "all;", 5, 120);
         scriptError("all;".repeat(30) + "foo;", 1, 120);
         scriptError("all;".repeat(30) + "repeat 0();", 5, 120);

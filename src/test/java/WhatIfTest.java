@@ -94,5 +94,8 @@ public final class WhatIfTest {
         Checks.due("only one", 0, Checks.read("arc 9 9;name a;").spare());
         Checks.due("like ones", 0, Checks.read("arc 9 9;arc 9 9;").spare());
         Checks.due("no arcs", -1, Checks.read("name a;").spare());
+        Checks.due("21 crowded rooms", 0,
+            Checks.read("arc 9 9;arc 9 9;name abcdefgh;name abcdefgh;name abcd;").spare());
+        Checks.due("of 8 arcs", 7, Checks.read("arc 10 90;".repeat(7) + "arc 1 180;name a;margin 0;wide a 60;").spare());
     }
 }
