@@ -102,7 +102,10 @@ public final class EngravingTest {
         Checks.due("more than there is room for", 80, many.slipsIf());
         many.engraveAll();
         Checks.due("more than there is room for", 36, many.slipsIf());
-        Checks.due("no arcs", 0, Checks.read("name dddd;sharp 1;").slipsIf());
+        String name = "name dddddddd; name dddddddd; name dddd; sharp 1; seed ";
+        for (int seed = 0; seed < 20; seed++) {
+            Checks.due("no arcs, seed " + seed, 0, Checks.read(name + seed + ";").slipsIf());
+        }
     }
 
     private static void promise27() {

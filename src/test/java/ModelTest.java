@@ -146,6 +146,9 @@ public final class ModelTest {
                 four(bytes, from + 16));
         }
         call("truncate", length);
+        if (length > 0 && random.nextInt(8) == 0) {
+            call("truncate", random.nextInt(length));
+        }
     }
 
     private static int four(byte[] bytes, int from) {

@@ -60,6 +60,27 @@ public final class TextsTest {
         Checks.due("shorter", 10, x.truncate(10));
         Checks.thrown("not longer again", Checks.ILLEGAL, () -> x.truncate(11));
         Checks.due("truncated text", 4, x.readText());
+        cut("name abcd", 8, 8);
+        cut("seed 56", 6, 6);
+        cut("name a; ;", 8, -1);
+        cut("name a;;", 7, -1);
+        cut("arc 1 11;", 7, 7);
+        Checks.put(x, "abcdefgh");
+        x.truncate(2);
+        Checks.due("a word that was cut is no error", -4000, x.tightestIf());
+    }
+
+    /** What stood behind the length must not be read. */
+    private static void cut(String text, int length, int position) {
+        CurvedNames x = new CurvedNames();
+        Checks.put(x, text);
+        x.truncate(length);
+        if (position == -1) {
+            x.readText();
+        } else {
+            Checks.thrown(text, Checks.ILLEGAL, x::readText);
+        }
+        Checks.due("cut: " + text, position, x.errorPosition());
     }
 
     private static void promise4() {
