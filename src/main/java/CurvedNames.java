@@ -585,7 +585,7 @@ public final class CurvedNames {
 
         int centreTurn(int letter) {
             int letters = name.letters;
-            return letters > 0 ? (2 * letter + 1) * curve.wholeTurn() / (2 * letters) : 0;
+            return letters > 0 ? (2 * letter + 1) * curve.turnAhead(curve.arcs) / (2 * letters) : 0;
         }
 
         int centreParts(int letter) {
@@ -605,8 +605,7 @@ public final class CurvedNames {
         }
 
         int hardnessUnder(int letter) {
-            int arc = arcUnder(letter);
-            return hasArc(arc) ? curve.hardness[arc] : 0;
+            return curve.hardnessAt(centreTurn(letter));
         }
 
         int centresOn(int arc) {
@@ -742,7 +741,7 @@ public final class CurvedNames {
         int turnAhead(int arc) {
             int turn = 0;
             for (int i = 0; i < arc; i++) {
-                turn += tenths(i);
+                turn += 10 * degrees[i];
             }
             return turn;
         }
@@ -750,7 +749,7 @@ public final class CurvedNames {
         int partsAhead(int arc) {
             int parts = 0;
             for (int i = 0; i < arc; i++) {
-                parts += radius[i] * tenths(i);
+                parts += radius[i] * 10 * degrees[i];
             }
             return parts;
         }
@@ -766,12 +765,17 @@ public final class CurvedNames {
         int arcAround(int turn) {
             int end = 0;
             for (int arc = 0; arc < arcs; arc++) {
-                end += tenths(arc);
+                end += 10 * degrees[arc];
                 if (end > turn) {
                     return arc;
                 }
             }
             return arcs > 0 ? arcs - 1 : NONE;
+        }
+
+        int hardnessAt(int turn) {
+            int arc = arcAround(turn);
+            return isWithin(arc, 0, arcs - 1) ? hardness[arc] : 0;
         }
 
         int partsTo(int turn) {
@@ -1259,37 +1263,13 @@ public final class CurvedNames {
             return byteAt(i) - 'a';
         }
 
-        private boolean isLetterAt(int i) {
-            return isPlace(placeAt(i));
-        }
-
-        private boolean isDigitAt(int i) {
-            return isWithin(byteAt(i), '0', '9');
-        }
-
-        private boolean isBlankAt(int i) {
-            return byteAt(i) == ' ' || byteAt(i) == '\n';
-        }
-
-        private boolean isSignAt(int i) {
-            return byteAt(i) == ';' || byteAt(i) == '(' || byteAt(i) == ')';
-        }
-
         boolean isOneWord() {
-            return isWithin(length, 1, LONGEST_WORD) && endOfLetters(0) == length;
+            return isWithin(length, 1, LONGEST_WORD) && endOfRun(0, 'a', 'z') == length;
         }
 
-        private int endOfLetters(int from) {
+        private int endOfRun(int from, int least, int most) {
             int i = from;
-            while (i < length && isLetterAt(i)) {
-                i++;
-            }
-            return i;
-        }
-
-        private int endOfDigits(int from) {
-            int i = from;
-            while (i < length && isDigitAt(i)) {
+            while (i < length && bytes[i] >= least && bytes[i] <= most) {
                 i++;
             }
             return i;
@@ -1297,7 +1277,7 @@ public final class CurvedNames {
 
         private int endOfBlanks(int from) {
             int i = from;
-            while (i < length && isBlankAt(i)) {
+            while (i < length && (bytes[i] == ' ' || bytes[i] == '\n')) {
                 i++;
             }
             return i;
@@ -1312,18 +1292,19 @@ public final class CurvedNames {
 
         void advance() {
             start = endOfBlanks(end);
+            int sign = byteAt(start);
             if (start >= length) {
                 end = length;
                 kind = END;
-            } else if (isLetterAt(start)) {
-                end = endOfLetters(start);
+            } else if (isWithin(sign, 'a', 'z')) {
+                end = endOfRun(start, 'a', 'z');
                 kind = end - start <= LONGEST_WORD ? WORD : INVALID;
-            } else if (isDigitAt(start)) {
-                end = endOfDigits(start);
+            } else if (isWithin(sign, '0', '9')) {
+                end = endOfRun(start, '0', '9');
                 kind = end - start <= LONGEST_NUMBER ? NUMBER : INVALID;
             } else {
                 end = start + 1;
-                kind = isSignAt(start) ? SIGN : INVALID;
+                kind = sign == ';' || sign == '(' || sign == ')' ? SIGN : INVALID;
             }
         }
 
@@ -1561,12 +1542,19 @@ public final class CurvedNames {
         }
     }
 
-    /** The commands of the script that was read last, those in parentheses behind their "repeat". */
+    /**
+     * The steps of the script that was read last: its commands, and an end behind the commands of each "repeat".
+     * The number of an end is the step of its "repeat".
+     */
     private static final class Script {
         private static final int MOST_COMMANDS = 30;
+        private static final int MOST_STEPS = 2 * MOST_COMMANDS;
         private static final int MOST_DONE = 40;
         private static final int MOST_TIMES = 20;
         private static final int MOST_DEPTH = 2;
+
+        /** Far above what empty parentheses in parentheses can need. */
+        private static final int MOST_STEPS_RUN = 1000000;
 
         private static final int ENGRAVE = 0;
         private static final int ALL = 1;
@@ -1575,33 +1563,31 @@ public final class CurvedNames {
         private static final int SHARPEN = 4;
         private static final int MARGIN = 5;
         private static final int REPEAT = 6;
+        private static final int END = 7;
 
-        private final int[] commands = new int[MOST_COMMANDS];
-        private final int[] numbers = new int[MOST_COMMANDS];
-        private final int[] nexts = new int[MOST_COMMANDS];
-        private int count;
-        private int done;
+        private final int[] steps = new int[MOST_STEPS];
+        private final int[] numbers = new int[MOST_STEPS];
+        private final int[] rounds = new int[MOST_STEPS];
+        private final int[] open = new int[MOST_DEPTH];
+        private int size;
+        private int commands;
+        private int depth;
 
         boolean readFrom(Tokens tokens) {
-            count = 0;
+            size = 0;
+            commands = 0;
+            depth = 0;
             tokens.begin();
-            return readCommands(tokens, 0);
-        }
-
-        /** Ends ahead of the parenthesis that closes them, or at the end of the text. */
-        private boolean readCommands(Tokens tokens, int depth) {
-            for (int i = 0; i <= MOST_COMMANDS; i++) {
-                if (tokens.isAtEnd() || depth > 0 && tokens.isSign(')')) {
-                    return true;
-                }
-                if (!readCommand(tokens, depth) || !tokens.takeSign(';')) {
+            for (int i = 0; i < MOST_BYTES && !tokens.isAtEnd(); i++) {
+                boolean isRead = depth > 0 && tokens.isSign(')') ? readEnd(tokens) : readCommand(tokens);
+                if (!isRead) {
                     return false;
                 }
             }
-            return true;
+            return depth == 0 || tokens.fail(NOT_ALLOWED);
         }
 
-        private boolean readCommand(Tokens tokens, int depth) {
+        private boolean readCommand(Tokens tokens) {
             int command = commandAt(tokens);
             if (command == NONE) {
                 return tokens.fail(NOT_ALLOWED);
@@ -1609,17 +1595,48 @@ public final class CurvedNames {
             if (command == REPEAT && depth >= MOST_DEPTH) {
                 return tokens.fail(NOT_AGAIN);
             }
-            if (count >= MOST_COMMANDS) {
+            if (commands >= MOST_COMMANDS) {
                 return tokens.fail(TOO_MANY);
             }
-            int at = count;
-            count++;
-            commands[at] = command;
-            numbers[at] = 0;
+            commands++;
             tokens.advance();
-            boolean isRead = command == REPEAT ? readRepeat(tokens, at, depth) : readNumber(tokens, at);
-            nexts[at] = count;
-            return isRead;
+            if (command == REPEAT) {
+                return readRepeat(tokens);
+            }
+            if (command != ALL && !tokens.takeNumber(0, MOST_NUMBER)) {
+                return false;
+            }
+            addStep(command, tokens.number);
+            return tokens.takeSign(';');
+        }
+
+        private boolean readRepeat(Tokens tokens) {
+            if (!tokens.takeNumber(1, MOST_TIMES)) {
+                return false;
+            }
+            if (depth < MOST_DEPTH) {
+                open[depth] = size;
+                depth++;
+            }
+            addStep(REPEAT, tokens.number);
+            return tokens.takeSign('(');
+        }
+
+        private boolean readEnd(Tokens tokens) {
+            if (depth > 0) {
+                depth--;
+                addStep(END, open[depth]);
+            }
+            tokens.advance();
+            return tokens.takeSign(';');
+        }
+
+        private void addStep(int step, int number) {
+            if (size < MOST_STEPS) {
+                steps[size] = step;
+                numbers[size] = number;
+                size++;
+            }
         }
 
         private static int commandAt(Tokens tokens) {
@@ -1644,62 +1661,30 @@ public final class CurvedNames {
             return tokens.isWord("repeat") ? REPEAT : NONE;
         }
 
-        private boolean readNumber(Tokens tokens, int at) {
-            if (commands[at] == ALL) {
-                return true;
-            }
-            if (!tokens.takeNumber(0, MOST_NUMBER)) {
-                return false;
-            }
-            numbers[at] = tokens.number;
-            return true;
-        }
-
-        private boolean readRepeat(Tokens tokens, int at, int depth) {
-            if (!tokens.takeNumber(1, MOST_TIMES)) {
-                return false;
-            }
-            numbers[at] = tokens.number;
-            return tokens.takeSign('(') && readCommands(tokens, depth + 1) && tokens.takeSign(')');
-        }
-
+        /** Answers how many commands were done. */
         int runOn(Plate plate) {
-            done = 0;
-            runRange(plate, 0, count, 0);
+            int done = 0;
+            int at = 0;
+            for (int i = 0; i < MOST_STEPS_RUN && at < size && done < MOST_DONE; i++) {
+                if (steps[at] == REPEAT) {
+                    rounds[at] = numbers[at];
+                    at++;
+                } else if (steps[at] == END) {
+                    at = stepBehindEnd(at);
+                } else if (isDone(plate, steps[at], numbers[at])) {
+                    done++;
+                    at++;
+                } else {
+                    return done;
+                }
+            }
             return done;
         }
 
-        /** Answers whether the script goes on behind these commands. */
-        private boolean runRange(Plate plate, int from, int to, int depth) {
-            if (depth > MOST_DEPTH) {
-                return false;
-            }
-            int at = from;
-            for (int i = 0; i < MOST_COMMANDS && at < to; i++) {
-                boolean goesOn = commands[at] == REPEAT ? runRepeat(plate, at, depth) : runCommand(plate, at);
-                if (!goesOn) {
-                    return false;
-                }
-                at = nexts[at];
-            }
-            return true;
-        }
-
-        private boolean runRepeat(Plate plate, int at, int depth) {
-            for (int i = 0; i < numbers[at]; i++) {
-                if (!runRange(plate, at + 1, nexts[at], depth + 1)) {
-                    return false;
-                }
-            }
-            return true;
-        }
-
-        private boolean runCommand(Plate plate, int at) {
-            if (!isDone(plate, commands[at], numbers[at])) {
-                return false;
-            }
-            done++;
-            return done < MOST_DONE;
+        private int stepBehindEnd(int at) {
+            int repeat = numbers[at];
+            rounds[repeat]--;
+            return rounds[repeat] > 0 ? repeat + 1 : at + 1;
         }
 
         /** Does the command, unless its method would throw. */

@@ -47,6 +47,7 @@ public final class TextsTest {
         Checks.thrown("bytes above 127", Checks.ILLEGAL, x::readText);
         Checks.due("their code", 1, x.errorCode());
         Checks.due("their position", 480, x.errorPosition());
+        Checks.due("500 bytes to the last one", 1, Checks.read("name a" + " ".repeat(493) + ";").setting(1));
         Checks.due("500 blanks are no error", 0, Checks.read(" \n".repeat(250)).errorCode());
     }
 
@@ -322,6 +323,12 @@ public final class TextsTest {
         Checks.due("the last one", 3, x.setting(6));
         Checks.due("exactly 40", 40, Checks.run(x, "repeat 20(margin 3;margin 4;);margin 101;"));
         Checks.due("30 commands", 30, Checks.run(x, "margin 5;".repeat(30)));
+        Checks.due("29 repeats", 1, Checks.run(x, "repeat 20();".repeat(29) + "margin 6;"));
+        Checks.due("behind them", 6, x.setting(6));
+        Checks.due("in 29 repeats", 1, Checks.run(x, "repeat 20();".repeat(28) + "repeat 1(margin 7;);"));
+        Checks.due("in the last one", 7, x.setting(6));
+        Checks.due("all in one", 20, Checks.run(x, "repeat 20(" + "repeat 20();".repeat(28) + "margin 8;);"));
+        Checks.due("behind them", 8, x.setting(6));
     }
 
     private static void promises6And7() {
