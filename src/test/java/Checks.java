@@ -13,6 +13,8 @@ final class Checks {
 
     private static int asked;
     private static int wrong;
+    private static int sentences;
+    private static String sentence = "";
 
     private Checks() {
     }
@@ -21,7 +23,7 @@ final class Checks {
         asked++;
         if (!Objects.equals(want, got)) {
             wrong++;
-            System.out.println(what + ": answered " + got + ", due is " + want);
+            System.out.println(sentence + what + ": answered " + got + ", due is " + want);
         }
     }
 
@@ -36,8 +38,21 @@ final class Checks {
         due(what, want, got);
     }
 
+    /** The test of one sentence of the document; what it throws is a wrong answer of this sentence alone. */
+    static void sentence(String where, String words, Runnable test) {
+        sentences++;
+        sentence = where + " \"" + words + "\": ";
+        try {
+            test.run();
+        } catch (RuntimeException e) {
+            due("what is thrown", null, e);
+        }
+        sentence = "";
+    }
+
     static void end() {
-        System.out.println(asked + " answers, " + wrong + " not as due");
+        String told = sentences == 0 ? "" : sentences + " sentences, ";
+        System.out.println(told + asked + " answers, " + wrong + " not as due");
         if (wrong != 0) {
             System.exit(1);
         }
@@ -74,6 +89,29 @@ final class Checks {
     static int run(CurvedNames x, String script) {
         put(x, script);
         return x.runScript();
+    }
+
+    /** The error that a text has on a new object: its code and its position; nothing is told of one without. */
+    static String textError(String text) {
+        CurvedNames x = new CurvedNames();
+        put(x, text);
+        return error(x, x::readText);
+    }
+
+    /** The same of a script. */
+    static String scriptError(String text) {
+        CurvedNames x = new CurvedNames();
+        put(x, text);
+        return error(x, x::runScript);
+    }
+
+    private static String error(CurvedNames x, Call reading) {
+        try {
+            reading.answer();
+        } catch (IllegalArgumentException e) {
+            return x.errorCode() + " at " + x.errorPosition();
+        }
+        return x.errorCode() == 0 && x.errorPosition() == -1 ? "" : "told, but not thrown";
     }
 
     static String report(CurvedNames x) {

@@ -170,28 +170,32 @@ public final class KeepingTest {
         return text.append(Checks.rooms(x)).append(' ').append(x.worth()).toString();
     }
 
-    private static void undone(CurvedNames x, String what, Checks.Call change) {
+    private static CurvedNames engraved() {
+        CurvedNames x = Checks.read("arc 5 90 hard 99;arc 6 90 hard 99;name hello;sharp 20;flourish p 1 1 9;");
+        x.engrave(1);
+        return x;
+    }
+
+    private static void undone(String what, Twins.Ask change) {
+        CurvedNames x = engraved();
         String before = all(x);
-        int changes = x.setting(13);
-        change.answer();
-        Checks.due(what + " is a change", changes + 1, x.setting(13));
+        change.of(x);
+        Checks.due(what + " is a change", 2, x.setting(13));
         Checks.due(what + " changes something", false, before.equals(all(x)));
         x.undo();
         Checks.due(what + " undone", before, all(x));
     }
 
     private static void undoOfEach() {
-        CurvedNames x = Checks.read("arc 5 90 hard 99;arc 6 90 hard 99;name hello;sharp 20;flourish p 1 1 9;");
-        x.engrave(1);
-        undone(x, "engrave", () -> x.engrave(0));
-        undone(x, "engraveAll", x::engraveAll);
-        undone(x, "mend", () -> x.mend(0));
-        undone(x, "polish", () -> x.polish(1));
-        undone(x, "sharpen", () -> x.sharpen(9));
-        undone(x, "setMargin", () -> x.setMargin(9));
-        undone(x, "setRadius", () -> x.setRadius(1, 50));
-        undone(x, "setWidth", () -> x.setWidth(7, 9));
-        undone(x, "runScript", () -> Checks.run(x, "polish 1; all; margin 7; mend 0; mend 999;"));
+        undone("engrave", x -> x.engrave(0));
+        undone("engraveAll", CurvedNames::engraveAll);
+        undone("mend", x -> x.mend(0));
+        undone("polish", x -> x.polish(1));
+        undone("sharpen", x -> x.sharpen(9));
+        undone("setMargin", x -> x.setMargin(9));
+        undone("setRadius", x -> x.setRadius(1, 50));
+        undone("setWidth", x -> x.setWidth(7, 9));
+        undone("runScript", x -> Checks.run(x, "polish 1; all; margin 7; mend 0; mend 999;"));
     }
 
     private static void promises43And44() {
