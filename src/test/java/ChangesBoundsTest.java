@@ -18,6 +18,7 @@ public final class ChangesBoundsTest {
         mend();
         mendRefused();
         polish();
+        polishLeavesOthers();
         polishRefused();
         sharpen();
         setMargin();
@@ -265,6 +266,28 @@ public final class ChangesBoundsTest {
             Checks.due("none went", 0, soft.polish(0));
             Checks.due("a mend all the same", 1, soft.letter(0, 11));
             Checks.due("what was mended went before", 2, mended(2).polish(0));
+        });
+    }
+
+    private static void polishLeavesOthers() {
+        sentence(35, "its scratches go (those of other letters stay, and are numbered anew)", () -> {
+            CurvedNames x = hard();
+            x.engraveAll();
+            int[] reaches = new int[7];
+            for (int i = 0; i < 7; i++) {
+                reaches[i] = x.scratch(i, 1);
+            }
+            x.polish(1);
+            int[] due = {0, 1, 2, 3, 5, 6};
+            for (int i = 0; i < 6; i++) {
+                Checks.due("letter of " + i, i < 4 ? 0 : 2, x.scratch(i, 0));
+                Checks.due("reach of " + i, reaches[due[i]], x.scratch(i, 1));
+            }
+            x.polish(0);
+            Checks.due("the first", reaches[5], x.scratch(0, 1));
+            Checks.due("the last", reaches[6], x.scratch(1, 1));
+            Checks.thrown("no other", Checks.INDEX, () -> x.scratch(2, 0));
+            Checks.due("four are different", true, reaches[0] != reaches[5] && reaches[1] != reaches[6]);
         });
     }
 

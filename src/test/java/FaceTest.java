@@ -1,5 +1,4 @@
 import java.io.IOException;
-import java.lang.reflect.Constructor;
 import java.lang.reflect.Field;
 import java.lang.reflect.Method;
 import java.lang.reflect.Modifier;
@@ -13,54 +12,53 @@ import java.util.stream.Collectors;
 /** The face of the class, and those rules of ../shared/LANGUAGE.md that can be seen from its text or its members. */
 public final class FaceTest {
     private static final String FACE = """
-        int feed(int,int,int,int,int) IllegalStateException
-        int truncate(int) IllegalArgumentException
-        int readText() IllegalArgumentException
-        int runScript() IllegalArgumentException
+        int feed(int,int,int,int,int)
+        int truncate(int)
+        int readText()
+        int runScript()
         int errorCode()
         int errorPosition()
-        int setting(int) IllegalArgumentException
-        int arc(int,int) IndexOutOfBoundsException IllegalArgumentException
-        int letter(int,int) IndexOutOfBoundsException IllegalArgumentException
-        int scratch(int,int) IndexOutOfBoundsException IllegalArgumentException
-        int flourishLetter(int,int) IndexOutOfBoundsException
-        int partsAt(int) IllegalArgumentException
-        int heading(int) IllegalArgumentException
-        int turnAt(int) IllegalArgumentException
+        int setting(int)
+        int arc(int,int)
+        int letter(int,int)
+        int scratch(int,int)
+        int flourishLetter(int,int)
+        int partsAt(int)
+        int heading(int)
+        int turnAt(int)
         int farthestLeft()
-        int room(int) IndexOutOfBoundsException
+        int room(int)
         int crowded()
         int tightest()
-        int flourishIn(int) IndexOutOfBoundsException
-        int stockLeft(int) IndexOutOfBoundsException
+        int flourishIn(int)
+        int stockLeft(int)
         int worth()
         double meanRoom()
         float filled()
-        int danger(int) IndexOutOfBoundsException
+        int danger(int)
         int slipsIf()
         int leastSharp()
         int leastGrowth()
-        int mostWidth(int) IllegalArgumentException
-        int tightestIf() IllegalArgumentException
+        int mostWidth(int)
+        int tightestIf()
         int spare()
-        int engrave(int) IndexOutOfBoundsException IllegalStateException
-        int engraveAll() IllegalStateException
-        int mend(int) IndexOutOfBoundsException IllegalStateException
-        int polish(int) IndexOutOfBoundsException IllegalStateException
-        int sharpen(int) IllegalArgumentException
-        int setMargin(int) IllegalArgumentException
-        int setRadius(int,int) IndexOutOfBoundsException IllegalArgumentException
-        int setWidth(int,int) IllegalArgumentException
+        int engrave(int)
+        int engraveAll()
+        int mend(int)
+        int polish(int)
+        int sharpen(int)
+        int setMargin(int)
+        int setRadius(int,int)
+        int setWidth(int,int)
         int report()
-        int reportByte(int) IndexOutOfBoundsException
+        int reportByte(int)
         int undo()
         int save()
-        int restore() IllegalStateException
+        int restore()
         """;
 
-    private static final String[] NOT_IN_THE_TEXT = {
-        "import ", "->", "::", "finally", "catch", "synchronized", "assert ", "static {", "@Override", "System.out",
-        "Exact(", "hashCode", "toString", "var ", "package "};
+    private static final String[] RULED_OUT = {
+        "package ", "::", "finally", "synchronized", "assert ", "static {", "Exact(", "hashCode", "System.out", "getMessage"};
 
     private FaceTest() {
     }
@@ -73,47 +71,41 @@ public final class FaceTest {
 
     private static void members() {
         Class<?> face = CurvedNames.class;
-        Checks.due("final", true, Modifier.isFinal(face.getModifiers()));
+        Checks.due("public and final", Modifier.PUBLIC | Modifier.FINAL, face.getModifiers());
         Set<String> methods = new TreeSet<>();
-        Set<String> hidden = new TreeSet<>();
+        Set<String> names = new TreeSet<>();
         for (Method m : face.getDeclaredMethods()) {
             if (Modifier.isPublic(m.getModifiers())) {
                 methods.add(row(m));
-            } else {
-                hidden.add(m.getName());
-                Checks.due(m.getName() + " is private", true, Modifier.isPrivate(m.getModifiers()));
+                names.add(m.getName());
             }
         }
         Checks.due("the face", new TreeSet<>(FACE.lines().toList()), methods);
-        for (String row : methods) {
-            String name = row.replaceAll("^\\w+ |\\(.*", "");
-            Checks.due("private methods bear no name of the face: " + name, false, hidden.contains(name));
+        for (Method m : face.getDeclaredMethods()) {
+            boolean isHidden = !Modifier.isPublic(m.getModifiers());
+            Checks.due(m + " is no lambda", false, m.getName().startsWith("lambda$"));
+            Checks.due(m + " is private", isHidden && !m.isSynthetic(), Modifier.isPrivate(m.getModifiers()));
+            Checks.due(m + " bears no name of the face", false, isHidden && names.contains(m.getName()));
         }
         for (Field f : face.getDeclaredFields()) {
-            boolean isPrivate = Modifier.isPrivate(f.getModifiers());
-            Checks.due("field " + f.getName(), !f.getName().equals("NONE"), isPrivate);
+            Checks.due(f + " is private", !f.getName().equals("NONE"), Modifier.isPrivate(f.getModifiers()) || f.isSynthetic());
         }
-        Constructor<?>[] constructors = face.getDeclaredConstructors();
-        Checks.due("constructors", 1, constructors.length);
-        Checks.due("its parameters", 0, constructors[0].getParameterCount());
+        Checks.due("constructors", 1, face.getDeclaredConstructors().length);
+        Checks.due("public ones, without parameters", 1, face.getConstructors().length);
         for (Class<?> inner : face.getDeclaredClasses()) {
-            Checks.due(inner + " is private", true, Modifier.isPrivate(inner.getModifiers()));
-            Checks.due(inner + " is static", true, Modifier.isStatic(inner.getModifiers()));
+            Checks.due(inner + " is hidden", 0, inner.getModifiers() & (Modifier.PUBLIC | Modifier.PROTECTED));
         }
-        Checks.due("some twelve classes", true, face.getDeclaredClasses().length <= 12);
     }
 
     private static String row(Method m) {
         String parameters = Arrays.stream(m.getParameterTypes()).map(Class::getSimpleName).collect(Collectors.joining(","));
-        String exceptions = Arrays.stream(m.getExceptionTypes()).map(c -> " " + c.getSimpleName()).collect(Collectors.joining());
-        return m.getReturnType().getSimpleName() + " " + m.getName() + "(" + parameters + ")" + exceptions;
+        return m.getReturnType().getSimpleName() + " " + m.getName() + "(" + parameters + ")";
     }
 
     private static void text() throws IOException {
         String text = Files.readString(Path.of("src/main/java/CurvedNames.java"));
-        for (String part : NOT_IN_THE_TEXT) {
+        for (String part : RULED_OUT) {
             Checks.due("the text has " + part, false, text.contains(part));
         }
-        Checks.due("its signs are of ASCII", true, text.chars().allMatch(c -> c < 128));
     }
 }

@@ -11,6 +11,7 @@ public final class KeepingBoundsTest {
         reportByte();
         undo();
         undoBringsBack();
+        otherWidths();
         save();
         restore();
         restoreBringsBack();
@@ -66,6 +67,15 @@ public final class KeepingBoundsTest {
             Checks.due("its last byte", 41, x.reportByte(273));
             Checks.thrown("no other", Checks.INDEX, () -> x.reportByte(274));
             Checks.due("0", 0, new CurvedNames().report());
+        });
+        sentence(40, "an exclamation mark (byte 33) if it is spoiled, .. also in the longest report", () -> {
+            CurvedNames x = Checks.read("arc 99 9 hard 99;arc 23 162 hard 99;arc 99 9;name dddddddd;name dddddddd;name dddd;sharp 1;"
+                + "wide d 1;margin 0;flourish abcdefgh 1 9 9;flourish abcdefgi 1 9 9;flourish abcdefgj 1 9 9;");
+            x.engraveAll();
+            Checks.due("spoiled letters", 10, x.setting(9));
+            Checks.due("21 flourishes, 20 letters, 44 scratches and those", 210 + 20 + 44 + 10, x.report());
+            Checks.due("its last byte", 41, x.reportByte(283));
+            Checks.thrown("no other", Checks.INDEX, () -> x.reportByte(284));
         });
     }
 
@@ -164,6 +174,19 @@ public final class KeepingBoundsTest {
             x.undo();
             x.undo();
             Checks.due("the first", "1 50 4", x.setting(6) + " " + x.setting(5) + " " + x.setWidth(0, 4));
+        });
+    }
+
+    private static void otherWidths() {
+        sentence(42, "also the width of a letter that is not in the name", () -> {
+            CurvedNames x = Checks.read("name a;");
+            x.setWidth(25, 9);
+            x.undo();
+            Checks.due("undone", 4, x.setWidth(25, 5));
+            x.save();
+            x.setWidth(25, 6);
+            x.restore();
+            Checks.due("restored", 5, x.setWidth(25, 4));
         });
     }
 

@@ -1,5 +1,6 @@
 import java.lang.reflect.InvocationTargetException;
 import java.lang.reflect.Method;
+import java.lang.reflect.Modifier;
 import java.nio.charset.StandardCharsets;
 import java.util.ArrayList;
 import java.util.List;
@@ -31,11 +32,15 @@ public final class ModelTest {
     private ModelTest(int seed) {
         this.seed = seed;
         this.random = new Random(seed);
-        for (Method m : CurvedNames.class.getDeclaredMethods()) {
-            face.put(m.getName(), m);
-        }
-        for (Method m : Oracle.class.getDeclaredMethods()) {
-            model.put(m.getName(), m);
+        publicMethods(CurvedNames.class, face);
+        publicMethods(Oracle.class, model);
+    }
+
+    private static void publicMethods(Class<?> of, Map<String, Method> methods) {
+        for (Method m : of.getDeclaredMethods()) {
+            if (Modifier.isPublic(m.getModifiers())) {
+                methods.put(m.getName(), m);
+            }
         }
     }
 

@@ -291,6 +291,29 @@ public final class TermsBoundsTest {
             near.setWidth(0, 99);
             Checks.due("a room below 0", 1, near.scratch(0, 2));
         });
+        sentence("Term 4", "(as it is at any time)", () -> {
+            CurvedNames x = Checks.read(NEAR);
+            x.engrave(0);
+            x.setRadius(0, 79);
+            Checks.due("setting, just behind a change", 1, x.setting(9));
+            x.setRadius(0, 80);
+            Checks.due("setting, just behind a change", 0, x.setting(9));
+            x.setRadius(0, 79);
+            Checks.due("letter, just behind a change", 1, x.letter(1, 9));
+            x.setRadius(0, 80);
+            Checks.due("letter, just behind a change", 0, x.letter(1, 9));
+            x.setRadius(0, 79);
+            Checks.due("scratch, just behind a change", 1, x.scratch(0, 2));
+            x.undo();
+            Checks.due("scratch, just behind an undo", -1, x.scratch(0, 2));
+            x.setWidth(0, 2);
+            Checks.due("setting, just behind a change", 1, x.setting(9));
+            x.setWidth(0, 1);
+            x.setRadius(1, 99);
+            Checks.put(x, "aaaaaaaa");
+            Checks.due("room 0 would have -100, and room 1 -6", -100, x.tightestIf());
+            Checks.due("not as it would be", 0, x.setting(9));
+        });
         sentence("Term 4", "spoils the letter behind its own (if there is one, planned or engraved)", () -> {
             CurvedNames x = Checks.read("arc 1 9 hard 99;name aaa;sharp 1;");
             x.engrave(0);
@@ -387,6 +410,23 @@ public final class TermsBoundsTest {
                 scriptWrong(word + " 1 1;", 1, behind + 2);
             }
         });
+        sentence("Term 5", "The commands are as the methods", () -> {
+            CurvedNames x = Checks.read("arc 9 9 hard 99;name dda;sharp 1;");
+            Checks.due("engrave", 1, Checks.run(x, "engrave 1;"));
+            Checks.due("engraved", "0 1 0", x.letter(0, 8) + " " + x.letter(1, 8) + " " + x.letter(2, 8));
+            Checks.due("all", 1, Checks.run(x, "all;"));
+            Checks.due("engraved", "1 1 1", x.letter(0, 8) + " " + x.letter(1, 8) + " " + x.letter(2, 8));
+            Checks.due("mend", 1, Checks.run(x, "mend 8;"));
+            Checks.due("mended", "1 0 8", x.letter(2, 11) + " " + x.letter(2, 12) + " " + x.setting(7));
+            Checks.due("polish", 1, Checks.run(x, "polish 0;"));
+            Checks.due("polished", "0 1 4", x.letter(0, 8) + " " + x.letter(0, 11) + " " + x.setting(7));
+            Checks.due("sharpen", 1, Checks.run(x, "sharpen 98;"));
+            Checks.due("sharpened", 98, x.setting(5));
+            Checks.due("sharpen", 1, Checks.run(x, "sharpen 2;"));
+            Checks.due("at most 99", 99, x.setting(5));
+            Checks.due("margin", 2, Checks.run(x, "margin 98;margin 99;"));
+            Checks.due("the last one", 99, x.setting(6));
+        });
         sentence("Term 5", "of \"repeat\" 1 to 20", () -> {
             scriptRight("repeat 1();");
             scriptRight("repeat 20();");
@@ -415,6 +455,9 @@ public final class TermsBoundsTest {
             scriptWrong("repeat 1(all;););", 1, 15);
             scriptWrong("repeat 1(repeat 1(all;);", 1, 24);
             Checks.due("empty parentheses", 1, Checks.run(new CurvedNames(), "repeat 20();repeat 20(repeat 20(););margin 1;"));
+            Checks.due("29 of them", 1, Checks.run(new CurvedNames(), "repeat 20();".repeat(29) + "margin 1;"));
+            Checks.due("29 of them", 1, Checks.run(new CurvedNames(), "repeat 20();".repeat(28) + "repeat 1(margin 1;);"));
+            Checks.due("28 of them within one", 20, Checks.run(new CurvedNames(), "repeat 20(" + "repeat 20();".repeat(28) + "margin 1;);"));
         });
     }
 
@@ -427,6 +470,15 @@ public final class TermsBoundsTest {
             scriptWrong("repeat 1(repeat 1(all; repeat", 3, 23);
             scriptWrong("repeat 1(repeat 1();repeat 1(repeat", 3, 29);
             scriptWrong("repeat 1(repeat 1(repeats", 1, 18);
+            CurvedNames x = new CurvedNames();
+            Checks.put(x, "repeat 1(repeat 1(");
+            Checks.thrown("two are open", Checks.ILLEGAL, x::runScript);
+            Checks.due("none is open in the next script", 4, Checks.run(x, "repeat 2(repeat 2(margin 1;););"));
+            Checks.put(x, "repeat 1(repeat 1(");
+            Checks.thrown("two are open", Checks.ILLEGAL, x::runScript);
+            Checks.put(x, ");");
+            Checks.thrown("none is open in the next script", Checks.ILLEGAL, x::runScript);
+            Checks.due("at its first byte", 0, x.errorPosition());
         });
         sentence("Term 5", "5: the first word of a 31st command of the text (\"repeat\" counts as one, too)", () -> {
             scriptRight("all;".repeat(30));
@@ -440,6 +492,9 @@ public final class TermsBoundsTest {
             scriptWrong("repeat 1(repeat 1(" + "all;".repeat(28) + ");all;);", 5, 132);
             scriptWrong("repeat 20();".repeat(30) + "all", 5, 360);
             scriptRight("repeat 20();".repeat(30));
+            CurvedNames x = new CurvedNames();
+            Checks.due("30 of each script", 30, Checks.run(x, "margin 1;".repeat(30)));
+            Checks.due("30 of each script", 30, Checks.run(x, "margin 1;".repeat(30)));
         });
         sentence("Term 5", "if several codes apply at one token, the lowest one", () -> {
             scriptWrong("repeat 1(repeat 1(" + "all;".repeat(28) + "repeat", 3, 130);

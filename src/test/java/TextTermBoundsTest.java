@@ -132,6 +132,17 @@ public final class TextTermBoundsTest {
             wrong("namea;", 1, 0);
             wrong("arcs 1 1;", 1, 0);
             wrong("ar 1 1;", 1, 0);
+            wrong("brc 1 1;", 1, 0);
+            wrong("ard 1 1;", 1, 0);
+            wrong("bame a;", 1, 0);
+            wrong("namf a;", 1, 0);
+            wrong("xide a 1;", 1, 0);
+            wrong("glourish a 1 1 1;", 1, 0);
+            wrong("teed 1;", 1, 0);
+            wrong("tharp 1;", 1, 0);
+            wrong("nargin 1;", 1, 0);
+            wrong("arc 1 1 sight;", 1, 8);
+            wrong("arc 1 1 bard 1;", 1, 8);
             wrong("arc 1 1 rights;", 1, 8);
         });
         sentence("at most 8 of them", () -> {

@@ -170,6 +170,15 @@ public final class TextsBoundsTest {
             Checks.thrown("a byte behind it is not read", Checks.ILLEGAL, x::readText);
             Checks.due("the text ends there", 7, x.errorPosition());
         });
+        sentence(3, "what is appended stands behind the new length", () -> {
+            CurvedNames x = new CurvedNames();
+            Checks.put(x, "name abcdefgh;name abcdefgh;");
+            x.truncate(5);
+            // "z;      " and 12 more blanks
+            Checks.due("fed", 25, x.feed(0x7a3b2020, 0x20202020, 0x20202020, 0x20202020, 0x20202020));
+            Checks.due("one letter", 1, x.readText());
+            Checks.due("z", 25, x.letter(0, 0));
+        });
         sentence(3, "Returns n", () -> {
             CurvedNames x = fed(500);
             for (int n : new int[] {500, 499, 1, 1, 0, 0}) {
@@ -247,6 +256,21 @@ public final class TextsBoundsTest {
                 for (int i = 0; i < 8 && y.setting(2) > 0; i++) {
                     Checks.due("name " + i, y.flourishLetter(0, i), x.flourishLetter(0, i));
                 }
+            }
+        });
+        sentence(4, "replaces also what another text told", () -> {
+            for (String behind : new String[] {"", "foo"}) {
+                CurvedNames x = new CurvedNames();
+                Checks.put(x, "arc 9 9 right hard 9;name zb;flourish z 1 1 1;sharp 9;seed 5;margin 3;wide z 3;" + behind);
+                if (behind.isEmpty()) {
+                    Checks.due("read", 2, x.readText());
+                } else {
+                    Checks.thrown("not read", Checks.ILLEGAL, x::readText);
+                }
+                Checks.put(x, "arc 9 9;name b;");
+                x.readText();
+                Checks.due("all of both", Twins.all(Checks.read("arc 9 9;name b;")), Twins.all(x));
+                Checks.due("width of z", 4, x.setWidth(25, 1));
             }
         });
         sentence(4, "but what is saved and the latest report", () -> {

@@ -228,6 +228,10 @@ public final class WhatIfBoundsTest {
             Checks.due("not behind the name", 250, tightestOf("ab"));
             Checks.due("the widths of now", -250, tightestOf("bc"));
             Checks.due("the same name", -1000, tightestOf("xyz"));
+            CurvedNames wider = Checks.read("arc 10 90;name xyz;");
+            wider.setWidth(0, 9);
+            Checks.put(wider, "a");
+            Checks.due("a width that was set", 0, wider.tightestIf());
             CurvedNames none = new CurvedNames();
             Checks.put(none, "ab");
             Checks.due("no arcs", -4000, none.tightestIf());
