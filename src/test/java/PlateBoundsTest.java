@@ -338,6 +338,9 @@ public final class PlateBoundsTest {
             for (int[] row : rightDue) {
                 Checks.due("around 0 at " + row[0], row[1], right.heading(row[0]));
             }
+            CurvedNames full = Checks.read("arc 99 180;".repeat(7) + "arc 99 179 right;");
+            Checks.due("of 8 arcs", 1800 * 7 - 1790 - 3600 * 3, full.heading(14390));
+            Checks.thrown("of 8 arcs", Checks.ILLEGAL, () -> full.heading(14391));
         });
     }
 
@@ -365,7 +368,10 @@ public final class PlateBoundsTest {
             for (int[] row : due) {
                 Checks.due("with " + row[0], row[1], x.turnAt(row[0]));
             }
-            Checks.due("the most", 14399, Checks.read("arc 99 180;".repeat(8)).turnAt(1425599));
+            CurvedNames full = Checks.read("arc 99 180;".repeat(8));
+            Checks.due("the most but one", 14399, full.turnAt(1425599));
+            Checks.due("the most", 14400, full.turnAt(1425600));
+            Checks.thrown("more", Checks.ILLEGAL, () -> full.turnAt(1425601));
         });
     }
 

@@ -583,9 +583,17 @@ public final class TermsBoundsTest {
             Checks.due("sharp", 50, x.setting(5));
         });
         sentence("Term 6", "that was done without an exception can be undone", () -> {
+            CurvedNames same = Checks.read("arc 9 9;sharp 99;");
+            same.setMargin(1);
+            Checks.due("also if nothing became other: margin", 1, same.setting(13));
+            same.setRadius(0, 9);
+            Checks.due("also if nothing became other: radius", 2, same.setting(13));
+            same.setWidth(0, 4);
+            Checks.due("also if nothing became other: width", 3, same.setting(13));
+            same.sharpen(1);
+            Checks.due("also if nothing became other: sharp", 4, same.setting(13));
             CurvedNames x = new CurvedNames();
-            x.setMargin(1);
-            Checks.due("also if nothing became other", 1, x.setting(13));
+            x.setMargin(5);
             Checks.thrown("an exception", Checks.ILLEGAL, () -> x.setMargin(100));
             Checks.put(x, "foo");
             Checks.thrown("an exception", Checks.ILLEGAL, x::runScript);

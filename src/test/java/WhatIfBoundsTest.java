@@ -152,6 +152,11 @@ public final class WhatIfBoundsTest {
             Checks.due("all of them", 20, Checks.read("arc 99 10;arc 99 10;name a;margin 99;").leastGrowth());
             Checks.due("the narrower one", 39, Checks.read("arc 99 10;arc 80 10;name a;margin 99;").leastGrowth());
             Checks.due("the narrower one", 39, Checks.read("arc 80 10;arc 99 10;name a;margin 99;").leastGrowth());
+            CurvedNames full = Checks.read("arc 80 10;".repeat(7) + "arc 99 10;name dddddddd;wide d 1;margin 99;");
+            // 8 letters in the middle of 8 arcs: the first room is 50 times the radius, less 500.
+            Checks.due("not even 99 of 8 arcs", -1, full.leastGrowth());
+            full.setMargin(45);
+            Checks.due("20 of 8 arcs", 20, full.leastGrowth());
         });
     }
 
@@ -228,6 +233,13 @@ public final class WhatIfBoundsTest {
             Checks.due("not behind the name", 250, tightestOf("ab"));
             Checks.due("the widths of now", -250, tightestOf("bc"));
             Checks.due("the same name", -1000, tightestOf("xyz"));
+            CurvedNames cut = Checks.read("arc 10 90;");
+            Checks.put(cut, "abcdefgh");
+            cut.truncate(1);
+            Checks.due("a word that was cut", 2500, cut.tightestIf());
+            Checks.put(cut, "abcdefgh;");
+            cut.truncate(8);
+            Checks.due("a word that was cut", -2880, cut.tightestIf());
             CurvedNames wider = Checks.read("arc 10 90;name xyz;");
             wider.setWidth(0, 9);
             Checks.put(wider, "a");
