@@ -368,6 +368,11 @@ public final class PlateBoundsTest {
             for (int[] row : due) {
                 Checks.due("with " + row[0], row[1], x.turnAt(row[0]));
             }
+            CurvedNames thin = Checks.read("arc 1 1;arc 2 1;");
+            int[][] thinDue = {{0, 0}, {1, 1}, {9, 9}, {10, 10}, {11, 10}, {12, 11}, {29, 19}, {30, 20}};
+            for (int[] row : thinDue) {
+                Checks.due("a radius of 1 and of 2, with " + row[0], row[1], thin.turnAt(row[0]));
+            }
             CurvedNames full = Checks.read("arc 99 180;".repeat(8));
             Checks.due("the most but one", 14399, full.turnAt(1425599));
             Checks.due("the most", 14400, full.turnAt(1425600));
