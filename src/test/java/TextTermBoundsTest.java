@@ -128,6 +128,8 @@ public final class TextTermBoundsTest {
                 wrong("name " + sign + ";", 1, 5);
                 wrong("name a" + sign + ";", 1, 6);
                 wrong("name a" + sign + "b;", 1, 6);
+                wrong("wide " + sign + " 1;", 1, 5);
+                wrong("flourish " + sign + " 1 1 1;", 1, 9);
             }
             wrong("namea;", 1, 0);
             wrong("arcs 1 1;", 1, 0);
@@ -170,6 +172,8 @@ public final class TextTermBoundsTest {
                 wrong("seed " + sign + ";", 1, 5);
                 wrong("seed 1" + sign + ";", 1, 6);
                 wrong("seed 1" + sign + "1;", 1, 6);
+                wrong("arc " + sign + " 1;", 1, 4);
+                wrong("wide a" + sign + ";", 1, 6);
             }
             wrong("arc 11;", 1, 6);
             Checks.due("one number", 123, Checks.read("seed 123;").setting(10));
