@@ -235,7 +235,8 @@ public final class TextsBoundsTest {
 
     private static void readTextReplaces() {
         sentence(4, "replaces all that there is", () -> {
-            for (String text : new String[] {"", "arc 9 9;name zb;flourish z 1 1 1;sharp 9;seed 5;margin 3;wide z 3;"}) {
+            String[] texts = {"", "arc 9 9;name zb;flourish z 1 1 1;sharp 9;seed 5;margin 3;wide z 3;", "name dab;sharp 1;"};
+            for (String text : texts) {
                 CurvedNames x = Twins.used();
                 x.truncate(0);
                 Checks.put(x, text);
@@ -248,6 +249,9 @@ public final class TextsBoundsTest {
                     for (int what = 0; what < 13; what++) {
                         Checks.due("letter " + letter + " " + what, y.letter(letter, what), x.letter(letter, what));
                     }
+                }
+                for (int letter = 0; letter < y.setting(1); letter++) {
+                    Checks.due("danger of " + letter, y.danger(letter), x.danger(letter));
                 }
                 Checks.due("undo", -1, x.undo());
                 for (int place = 0; place < 26; place++) {
